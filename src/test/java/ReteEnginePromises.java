@@ -424,6 +424,10 @@ public final class ReteEnginePromises {
         due("uses in the first two places", last.uses(1), 3);
         fill(last);
         due("uses of fact 6", last.uses(6), 36 - 25);
+
+        ReteEngine alone = withRule(demand(0, ANY, ANY), demand(0, ANY, ANY), demand(0, ANY, ANY));
+        alone.add(0, 0, 0);
+        due("one fact in all three places counts once", alone.uses(0), 1);
     }
 
     private static void fitting() {
