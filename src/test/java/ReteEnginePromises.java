@@ -102,13 +102,12 @@ public final class ReteEnginePromises {
 
     private static void condition() {
         promise = "promise 2";
-        ReteEngine x = new ReteEngine();
         for (int what = 0; what < 512; what++) {
-            due("condition of form " + what, x.condition(1, what), what % 4 == 3 ? NONE : 1);
-            if (what % 4 != 3) {
-                x.drop(1);
-            }
+            ReteEngine fresh = new ReteEngine();
+            due("condition of form " + what, fresh.condition(1, what), what % 4 == 3 ? NONE : 1);
+            due("conditions after form " + what, fresh.drop(1), what % 4 == 3 ? NONE : 0);
         }
+        ReteEngine x = new ReteEngine();
         for (int what : new int[] {-1, -4, -256, 512, 513, 1024, Integer.MAX_VALUE, Integer.MIN_VALUE}) {
             due("condition of form " + what, x.condition(1, what), NONE);
         }
