@@ -5,6 +5,7 @@ public final class ReteEngine {
 
     private static final int RULES = 3;
     private static final int CONDITIONS = 3;
+    private static final int CONDITIONS_OF_ALL_RULES = RULES * CONDITIONS;
     private static final int FACTS = 7;
     private static final int KINDS = 3;
     private static final int VALUES = 4;
@@ -24,7 +25,7 @@ public final class ReteEngine {
     // variable: 0 when it is unbound, otherwise its value + 1.
     private static final int NOTHING_BOUND = 0;
 
-    private final int[] conditions = new int[RULES * CONDITIONS];
+    private final int[] conditions = new int[CONDITIONS_OF_ALL_RULES];
     private final int[] sizes = new int[RULES];
     private final int[] kinds = new int[FACTS];
     private final int[] firstValues = new int[FACTS];
